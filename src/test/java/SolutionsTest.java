@@ -17,6 +17,8 @@ public final class SolutionsTest {
         refused();
         vital();
         vitalWithExtra();
+        vitalAfterClear();
+        leastNumbers();
         mostSolutions();
         due.end();
     }
@@ -279,6 +281,39 @@ public final class SolutionsTest {
         x.clear();
         x.extra(Numbers.pattern(1, 1, Numbers.D));
         due.is("vital(), no needed pattern", x.vital(), 2);
+    }
+
+    /** Promises 9 and 18: nothing of an extra pattern is left once the query is empty. */
+    private static void vitalAfterClear() {
+        TripleJoins x = new TripleJoins();
+        x.state(Numbers.statement(1, 0, 0));
+        x.state(Numbers.statement(1, 0, 6));
+        x.extra(Numbers.pattern(1, 0, Numbers.D));
+        due.is("vital()", x.vital(), 2);
+        x.clear();
+        due.is("vital() after clear", x.vital(), 0);
+        x.need(Numbers.pattern(1, 0, Numbers.A));
+        due.is("vital() after clear and need", x.vital(), 2);
+        due.is("values(D)", x.values(3), 256);
+    }
+
+    /** The statement 0 and the code 0 count like all others. */
+    private static void leastNumbers() {
+        TripleJoins x = new TripleJoins();
+        x.state(0);
+        due.is("matching(A B C)", x.matching(Numbers.pattern(Numbers.A, Numbers.B, Numbers.C)), 1);
+        x.extra(Numbers.pattern(Numbers.A, 0, Numbers.D));
+        due.is("solutions()", x.solutions(), 1);
+        due.is("next(-1)", x.next(-1), Numbers.code(0, 8, 8, 0));
+        due.is("isSolution(6560)", x.isSolution(Numbers.ALL_OPEN), 0);
+        x.need(Numbers.pattern(Numbers.A, Numbers.B, Numbers.C));
+        due.is("solutions()", x.solutions(), 1);
+        due.is("next(-1)", x.next(-1), 0);
+        due.is("isSolution(0)", x.isSolution(0), 1);
+        due.is("values(B)", x.values(1), 1);
+        due.is("having(B, 0)", x.having(1, 0), 1);
+        due.is("pairs(B, C)", x.pairs(1, 2), 1);
+        due.is("vital()", x.vital(), 1);
     }
 
     /** With 48 statements, four variables in two patterns give 48 times 48 solutions at the most. */
