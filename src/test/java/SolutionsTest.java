@@ -19,7 +19,7 @@ public final class SolutionsTest {
         vitalWithExtra();
         vitalAfterClear();
         leastNumbers();
-        mostSolutions();
+        manySolutions();
         due.end();
     }
 
@@ -316,8 +316,8 @@ public final class SolutionsTest {
         due.is("vital()", x.vital(), 1);
     }
 
-    /** With 48 statements, four variables in two patterns give 48 times 48 solutions at the most. */
-    private static void mostSolutions() {
+    /** With 48 statements, two patterns without a common variable give 48 times 48 solutions. */
+    private static void manySolutions() {
         TripleJoins x = new TripleJoins();
         for (int subject = 0; subject < 6; subject++) {
             for (int object = 0; object < 8; object++) {
