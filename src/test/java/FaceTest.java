@@ -5,7 +5,7 @@ import java.lang.reflect.Modifier;
 import java.util.Set;
 import java.util.TreeSet;
 
-/** The class shows the public face of the document and no more. */
+/** The class shows the public face of the document and no more; no object shares anything with another one. */
 public final class FaceTest {
     private static final Due due = new Due("FaceTest");
     private static final Set<String> FACE = Set.of("state/1", "sow/3", "retract/1", "need/1", "extra/1", "condition/3",
@@ -33,6 +33,8 @@ public final class FaceTest {
         Set<String> open = new TreeSet<>();
         for (Method method : TripleJoins.class.getDeclaredMethods()) {
             if (Modifier.isPrivate(method.getModifiers())) {
+                due.holds(method + " bears no public name",
+                    FACE.stream().noneMatch(face -> face.startsWith(method.getName() + "/")));
                 continue;
             }
             open.add(method.getName() + "/" + method.getParameterCount());
@@ -48,7 +50,10 @@ public final class FaceTest {
 
     private static void fields() {
         for (Field field : TripleJoins.class.getDeclaredFields()) {
-            due.holds(field + " is private", Modifier.isPrivate(field.getModifiers()));
+            int modifiers = field.getModifiers();
+            due.holds(field + " is private", Modifier.isPrivate(modifiers));
+            due.holds(field + " is a constant if it is static", !Modifier.isStatic(modifiers)
+                || Modifier.isFinal(modifiers) && (field.getType() == int.class || field.getType() == long.class));
         }
     }
 }
